@@ -140,6 +140,8 @@ final class PromiseTest {
         }
         due("3: as it was", hotel.dayIs(0, 0, 8), 7);
         due("3: only the first n bytes", hotel.day(3, 7), 1);
+        due("3: all of the tape", Ask.day(hotel, 3, "r1(0-1);w2(0-1);l(0)"), -1017);
+        due("3: all of the tape", Ask.day(hotel, 3, "r1(0-1);w12(10-11)" + ";r"), -1020);
         for (int i = 0; i < 7; i++) {
             hotel.feed(0, 0, 0, 0, 0);
         }
@@ -316,6 +318,7 @@ final class PromiseTest {
         due("12: in place of the one before", Ask.law(hotel, "m7(1=1)"), 1);
         due("12: CLAUSES", hotel.count(3), 1);
         due("12: HARM", hotel.served(0), 35);
+        due("12: all of the tape", Ask.law(hotel, "m7(1=1);m8(s=1|s=10)"), 2);
         Ask.feed(hotel, Ask.bytesOf("p5(s=0)"));
         for (int n : new int[] {0, -1, 21, 161, MIN, MAX}) {
             due("12: law " + n, hotel.law(n), -1);
@@ -382,6 +385,7 @@ final class PromiseTest {
             {"m65536*32768(1=1)", 0}, {"m65536*32767+65536(1=1)", 0}, {"m65536*65536+5(1=1)", 5},
             {"m5(1=2)", 1}, {"m5(1=2);m6(1=1);m7(1=1)", 6}, {"p5(1=1)", 1}, {"p5(1=1);m6(1=1)", 6},
             {"m5(1<2)", 5}, {"m5(2<2)", 1}, {"m5(2>1)", 5}, {"m5(2>2)", 1}, {"m5(!1=1)", 1}, {"m5(!!1=1)", 5},
+            {"m5(!1<2)", 1}, {"m5(!2>1)", 1}, {"m5(1<2|1=2)", 5}, {"m5(1=2|2>1&1<2)", 5},
             {"m5(1=1|1=1&1=2)", 5}, {"m5((1=1|1=1)&1=2)", 1}, {"m5(!1=2&1=1)", 5}, {"m5(!(1=2&1=1))", 5},
             {"m5(!1=1|1=1)", 5}, {"m5(!(1=1|1=1))", 1}, {"m5(1=2|1=3|1=1)", 5}, {"m5(1=1&2=2&3=4)", 1},
             {"m5(t=20&k=2&n=9&g=1&s=3)", 5}, {"m5(1+1*2=3)", 5}, {"m5([1+1]*2=4)", 5},
@@ -406,7 +410,7 @@ final class PromiseTest {
         hotel.plant(2, 5, 0);
         due("12: of like ones the lowest", hotel.gets(0, 2, 3), 5);
         Object[][] soon = {
-            {"p1(s=1)", 1}, {"p1000(s=0);p999(s=1)", 0}, {"p0-1(s=1)", 0}, {"p1(s=1&k=0&n=0&g=0)", 1}, {"p5(s=1);p6(s=0)", 0},
+            {"p1(s=1)", 1}, {"p1000(s=1);p999(s=0)", 0}, {"p0-1(s=1)", 0}, {"p1(s=1&k=0&n=0&g=0)", 1}, {"p5(s=1);p6(s=0)", 0},
             {"p5(s=1);p9(s=1);p6(s=0)", 0}, {"p7/0(s=1)", 0}, {"p7(s=1/0);p1(s=1)", 1}, {"m5(s=1)", 0}, {"p1(s=1&t>3)", 0},
             {"p1(s=1&t<4)", 1}, {"pr(1=1)", 1}, {"pf(1=1)", 1}, {"pd(1=1)", 1}, {"pc(1=1)", 0}, {"pt(s=1)", 1},
         };
@@ -470,6 +474,7 @@ final class PromiseTest {
         due("15: MISSED of 2", hotel.served(12), 29);
         Ask.law(hotel, "mg(k=0&s=2);m3(k=1);m0(1=1)");
         due("15: HARM", hotel.served(0), 64 + 64 + 100 + 9);
+        due("15: MISSED of all STAYS", withStays("l1(0-1)", "l2(0-1)", "l4(0-1)").served(2), 7);
         for (int what : new int[] {-1, 3, 9, 10, 13, 19, 20, 42, MIN, MAX, MIN + 11}) {
             due("15: no such what " + what, hotel.served(what), -1);
         }
@@ -537,6 +542,11 @@ final class PromiseTest {
         hotel.stay(1, 1, 1, 0);
         hotel.stay(3, 3, 3, 0);
         due("17: not those without a PRICE", hotel.best(1), 4);
+        hotel.stay(2, 2, 2, 1);
+        due("17: but one with the least PRICE", hotel.best(1), 4);
+        hotel.stay(2, 2, 2, 0);
+        hotel.stay(0, 0, 0, 1);
+        due("17: but one with the least PRICE", hotel.best(1), 1);
         for (int what : new int[] {-1, 2, MIN, MAX}) {
             due("17: no such what", hotel.best(what), -1);
         }
@@ -606,6 +616,14 @@ final class PromiseTest {
         due("20: the others are where they were", hotel.count(10) * 10 + hotel.count(15), 9);
         due("20: ROOMS change places", Ask.rooms(hotel, 3, 10, 0, 5), 1);
         due("20: the least row", hotel.count(10) * 10 + hotel.count(11), 5);
+        due("20: ROOM of STAY 0", Ask.rooms(hotel, 1, 10, 3), 1);
+        due("20: and it is so then", hotel.count(10), 3);
+        due("20: where the least ROOM won't do", Ask.rooms(hotel, 34, 1, 1, 8), 8);
+        due("20: where the least ROOM won't do", Ask.rooms(hotel, 34, 5, 8, 1), 1);
+        due("20: where the least FLOOR won't do", Ask.rooms(hotel, 34, 1, 1, 2), 2);
+        Ask.rooms(hotel, 1, 10, 0);
+        due("20: the least row of these", Ask.rooms(hotel, 35, 5, 0, 2, 7), 7);
+        due("20: the least row of these", Ask.rooms(hotel, 35, 0, 0, 2, 7), 0);
         due("20: a ROOM twice", Ask.rooms(hotel, 3, 10, 1, 1), -3);
         due("20: no such ROOM", Ask.rooms(hotel, 3, 10, 1, 10), -3);
         due("20: no such ROOM", Ask.rooms(hotel, 3, 10, 1, 255), -3);
@@ -662,6 +680,21 @@ final class PromiseTest {
         edge.shift(0, 3);
         edge.shift(1, 2);
         due("21: within 3", edge.shifting(1, 2, 0), 3 + 2);
+        edge.shift(0, 2);
+        edge.shift(1, 1);
+        edge.pipes(0, 0);
+        edge.cellar(20, 0);
+        due("21: PIPES must do", edge.shifting(1, 2, 10), -2);
+        edge.pipes(0, 10);
+        due("21: just 3 is within", edge.shifting(2, 2, 1), 3);
+        Ask.day(edge, 1, "r10(23-24);r10(0-3)");
+        edge.cellar(50, 0);
+        due("21: just 3 is within", edge.shifting(1, 1, 10), -2);
+        edge.shift(1, 0);
+        due("21: just 3 is within", edge.shifting(1, 1, 0), 6);
+        Ask.day(edge, 1, "r10(1-2)");
+        edge.shift(0, 3);
+        edge.shift(1, 2);
         edge.cellar(20, 0);
         due("21: the CELLAR does too", edge.shifting(1, 2, 10), 1);
         WeatherHotel wide = withStays("r10(4-7)", "r10(5-6)");
@@ -762,6 +795,7 @@ final class PromiseTest {
         due("24: one alone", hotel.drought(2, 0), 1);
         due("24: all three", hotel.drought(7, -1), 43);
         due("24: all three", hotel.drought(7, 0) * 100 + hotel.drought(7, 1) * 10 + hotel.drought(7, 2), 102);
+        promise24Limits();
         for (int what : new int[] {2, 3, -2, MIN, MAX}) {
             due("24: no such place", hotel.drought(3, what), -2);
         }
@@ -774,6 +808,23 @@ final class PromiseTest {
         due("24: six", full.drought(126, -1), 6);
         due("24: no such place", full.drought(126, 6), -2);
         due("24: the last one", full.drought(126, 5), 6);
+    }
+
+    private static void promise24Limits() {
+        WeatherHotel hotel = withRooms(5);
+        Ask.day(hotel, 0, "r10(0-2);w4(5-6)");
+        hotel.stay(0, 0, 0, 0);
+        hotel.stay(1, 4, 0, 0);
+        hotel.stay(2, 1, 0, 0);
+        hotel.plant(0, 25, 0);
+        hotel.plant(1, 6, 0);
+        hotel.pipes(0, 12);
+        hotel.cellar(10, 9);
+        Ask.law(hotel, "m10(s=0);m3(s=1&k=1);m1(1=1)");
+        // For two the PIPES are too small, for three the CELLAR, too: it has 19 in HOUR 0, 9 in HOUR 1.
+        due("24: PIPES, PLANT and CELLAR", hotel.drought(3, -1), 8 + 8 + 6);
+        due("24: PIPES, PLANT and CELLAR", hotel.drought(7, -1), 8 + 3 + 10 + 10 + 10 + 6 + 4);
+        due("24: in this order", hotel.drought(7, 0) * 100 + hotel.drought(7, 1) * 10 + hotel.drought(7, 2), 12);
     }
 
     private static void promise25() {
@@ -921,10 +972,12 @@ final class PromiseTest {
         due("30: at the first", Ask.check(hotel, 2, 0, 1, 3, 3, 0), 0);
         due("30: at the last", Ask.check(hotel, 2, 0, 0, 3, 3, 1), 3);
         due("30: the first of them", Ask.check(hotel, 2, 0, 0, 4, 4, 1), 1);
+        due("30: all of the tape", Ask.check(hotel, 2, 0, 0, 3, 3, 0, 0), -1);
         due("30: only n numbers", Ask.check(hotel, 2, 0, 0, 3), -1);
         due("30: four bytes", Ask.check(hotel, 2, 1, 7, 7 + 256), 1);
         due("30: four bytes", Ask.check(hotel, 2, 1, 7, 7 + (1 << 24)), 1);
         due("30: four bytes", Ask.check(hotel, 2, 1, 7, 7, -7), 2);
+        due("30: four bytes", Ask.check(hotel, 2, 1, 7, MIN + 7), 1);
         int[] all = new int[24];
         all[23] = 1;
         due("30: all HOURS", Ask.check(hotel, 2, 2, all), -1);
@@ -961,6 +1014,8 @@ final class PromiseTest {
         for (int[] count : counts) {
             due("31: count " + count[0], hotel.count(count[0]), count[1]);
         }
+        hotel.stay(0, 3, 11, 7);
+        due("31: of STAY 0", hotel.count(10) + 100 * hotel.count(20) + 10000 * hotel.count(30) + 10000000 * hotel.count(40), 30071103);
         hotel.leave(3);
         due("31: a STAY that is gone", hotel.count(13), -1);
     }
