@@ -54,31 +54,6 @@ final class PromiseTest {
         Ask.due(what, got, want);
     }
 
-    /** ROOMS on FLOORS 0, 1, 2, .. in turn. */
-    private static WeatherHotel withRooms(int rooms) {
-        WeatherHotel hotel = new WeatherHotel();
-        for (int r = 0; r < rooms; r++) {
-            hotel.room(r % 4);
-        }
-        return hotel;
-    }
-
-    /** STAYS 0, 1, 2, .. in ROOMS of the same numbers, each with a DAY of its own. */
-    private static WeatherHotel withStays(String... texts) {
-        WeatherHotel hotel = withRooms(texts.length);
-        for (int i = 0; i < texts.length; i++) {
-            Ask.day(hotel, i, texts[i]);
-            hotel.stay(i, i, i, 100);
-        }
-        return hotel;
-    }
-
-    private static void plenty(WeatherHotel hotel) {
-        for (int kind = 0; kind < 3; kind++) {
-            hotel.plant(kind, 999, 0);
-        }
-    }
-
     private static void promise1() {
         WeatherHotel hotel = new WeatherHotel();
         due("NONE", WeatherHotel.NONE, -1);
@@ -89,13 +64,13 @@ final class PromiseTest {
         due("1: no DAY", hotel.dayIs(0, 0, 0), -1);
         due("1: water at first", hotel.served(1), 9999);
         due("1: none KEPT", hotel.undo(), false);
-        WeatherHotel first = withStays("r5(0-1)");
+        WeatherHotel first = Hotels.withStays("r5(0-1)");
         due("1: PLANT is 0", first.gets(0, 0, 0), 0);
         due("1: PLANT costs 0", first.fair(1, 0, 0), 0);
         first.plant(0, 5, 0);
         due("1: PIPES let 999 through", first.gets(0, 0, 0), 5);
         due("1: nothing comes", first.served(1), 9994);
-        due("1: HARM without THE LAW", withStays("l7(3-5)").served(0), 14);
+        due("1: HARM without THE LAW", Hotels.withStays("l7(3-5)").served(0), 14);
     }
 
     private static void promise2() {
@@ -207,7 +182,7 @@ final class PromiseTest {
     }
 
     private static void promise6() {
-        WeatherHotel hotel = withStays("r9(0-1);w9(0-1);l9(0-1)");
+        WeatherHotel hotel = Hotels.withStays("r9(0-1);w9(0-1);l9(0-1)");
         due("6: plant", hotel.plant(0, 1, 10), true);
         due("6: plant", hotel.plant(1, 2, 100), true);
         due("6: plant", hotel.plant(2, 3, 999), true);
@@ -224,8 +199,8 @@ final class PromiseTest {
     }
 
     private static void promise7() {
-        WeatherHotel hotel = withStays("r9(0-1)", "r8(0-1)");
-        plenty(hotel);
+        WeatherHotel hotel = Hotels.withStays("r9(0-1)", "r8(0-1)");
+        Hotels.plenty(hotel);
         due("7: pipes", hotel.pipes(0, 4), true);
         int[][] refused = {{-1, 0}, {4, 0}, {0, -1}, {0, 1000}, {MAX, 1}, {1, MIN}};
         for (int[] call : refused) {
@@ -239,8 +214,8 @@ final class PromiseTest {
     }
 
     private static void promise8() {
-        WeatherHotel hotel = withStays("r9(0-2)");
-        plenty(hotel);
+        WeatherHotel hotel = Hotels.withStays("r9(0-2)");
+        Hotels.plenty(hotel);
         due("8: cellar", hotel.cellar(3, 4), true);
         int[][] refused = {{-1, 0}, {10000, 0}, {0, -1}, {0, 100}, {MIN, 0}, {0, MAX}};
         for (int[] call : refused) {
@@ -256,7 +231,7 @@ final class PromiseTest {
     }
 
     private static void promise9() {
-        WeatherHotel hotel = withRooms(3);
+        WeatherHotel hotel = Hotels.withRooms(3);
         Ask.day(hotel, 2, "r5(0-1)");
         due("9: stay", hotel.stay(0, 1, 2, 999), true);
         due("9: in the same ROOM", hotel.stay(1, 1, 2, 0), false);
@@ -280,7 +255,7 @@ final class PromiseTest {
     }
 
     private static void promise10() {
-        WeatherHotel hotel = withStays("r5(0-1)", "r5(0-1)");
+        WeatherHotel hotel = Hotels.withStays("r5(0-1)", "r5(0-1)");
         for (int b : new int[] {2, -1, 10, MIN, MAX, 32}) {
             due("10: there is none", hotel.leave(b), false);
         }
@@ -292,7 +267,7 @@ final class PromiseTest {
     }
 
     private static void promise11() {
-        WeatherHotel hotel = withStays("r5(0-1)");
+        WeatherHotel hotel = Hotels.withStays("r5(0-1)");
         for (int hours = -3; hours <= 3; hours++) {
             due("11: shift", hotel.shift(0, hours), true);
             due("11: SHIFTED", hotel.count(40), hours + 3);
@@ -308,7 +283,7 @@ final class PromiseTest {
     }
 
     private static void promise12() {
-        WeatherHotel hotel = withStays("r5(0-1)");
+        WeatherHotel hotel = Hotels.withStays("r5(0-1)");
         due("12: one CLAUSE", Ask.law(hotel, "p5(s=0)"), 1);
         due("12: the tape is empty", hotel.count(4), 0);
         due("12: all that can be", Ask.law(hotel, "ps+r*f-d/c%t(k<n&!g=s|(r>f));m[1+[2]](1=1|2>3)"), 2);
@@ -333,7 +308,7 @@ final class PromiseTest {
     }
 
     private static void promise12Faults() {
-        WeatherHotel hotel = withStays("r5(0-1)");
+        WeatherHotel hotel = Hotels.withStays("r5(0-1)");
         Ask.law(hotel, "m7(1=1)");
         String twelve = "p5(s=0);p5(s=0);p5(s=0);p5(s=0);p5(s=0);p5(s=0);"
                 + "p5(s=0);p5(s=0);p5(s=0);p5(s=0);p5(s=0);p5(s=0)";
@@ -368,7 +343,7 @@ final class PromiseTest {
 
     /** HARM of one that is missed by the STAY 3 in ROOM 2 on FLOOR 2 with DAY 1 and PRICE 50, LIGHT, HOUR 20. */
     private static int harmBy(String law) {
-        WeatherHotel hotel = withRooms(3);
+        WeatherHotel hotel = Hotels.withRooms(3);
         Ask.day(hotel, 1, "l9(20-21)");
         hotel.stay(3, 2, 1, 50);
         hotel.plant(2, 8, 0);
@@ -406,7 +381,7 @@ final class PromiseTest {
         for (Object[] law : laws) {
             due("12: HARM by " + law[0], harmBy((String) law[0]), (Integer) law[1]);
         }
-        WeatherHotel hotel = withStays("l5(0-24)", "l5(0-24)");
+        WeatherHotel hotel = Hotels.withStays("l5(0-24)", "l5(0-24)");
         hotel.plant(2, 5, 0);
         due("12: of like ones the lowest", hotel.gets(0, 2, 3), 5);
         Object[][] soon = {
@@ -421,7 +396,7 @@ final class PromiseTest {
     }
 
     private static void promise13() {
-        WeatherHotel hotel = withStays("r5(8-10);w3(0-24)", "r6(9-11)");
+        WeatherHotel hotel = Hotels.withStays("r5(8-10);w3(0-24)", "r6(9-11)");
         int[][] calls = {
             {0, 7, 0}, {0, 8, 5}, {0, 9, 11}, {0, 10, 6}, {1, 23, 3}, {2, 0, 0},
             {-1, 0, -1}, {3, 0, -1}, {0, -1, -1}, {0, 24, -1}, {MIN, 0, -1}, {0, MAX, -1},
@@ -436,7 +411,7 @@ final class PromiseTest {
     }
 
     private static void promise14() {
-        WeatherHotel hotel = withRooms(5);
+        WeatherHotel hotel = Hotels.withRooms(5);
         Ask.day(hotel, 0, "r10(0-3);w4(0-1)");
         hotel.stay(1, 0, 0, 0);
         hotel.stay(2, 4, 0, 0);
@@ -459,7 +434,7 @@ final class PromiseTest {
     }
 
     private static void promise15() {
-        WeatherHotel hotel = withRooms(5);
+        WeatherHotel hotel = Hotels.withRooms(5);
         Ask.day(hotel, 0, "r10(0-3);w4(0-1)");
         hotel.stay(1, 0, 0, 0);
         hotel.stay(2, 4, 0, 0);
@@ -474,14 +449,14 @@ final class PromiseTest {
         due("15: MISSED of 2", hotel.served(12), 29);
         Ask.law(hotel, "mg(k=0&s=2);m3(k=1);m0(1=1)");
         due("15: HARM", hotel.served(0), 64 + 64 + 100 + 9);
-        due("15: MISSED of all STAYS", withStays("l1(0-1)", "l2(0-1)", "l4(0-1)").served(2), 7);
+        due("15: MISSED of all STAYS", Hotels.withStays("l1(0-1)", "l2(0-1)", "l4(0-1)").served(2), 7);
         for (int what : new int[] {-1, 3, 9, 10, 13, 19, 20, 42, MIN, MAX, MIN + 11}) {
             due("15: no such what " + what, hotel.served(what), -1);
         }
     }
 
     private static void promise16() {
-        WeatherHotel hotel = withStays("r10(8-10)", "r6(9-11)", "w1(5-6)");
+        WeatherHotel hotel = Hotels.withStays("r10(8-10)", "r6(9-11)", "w1(5-6)");
         hotel.plant(0, 15, 0);
         hotel.plant(1, 1, 0);
         int[][] calls = {
@@ -500,7 +475,7 @@ final class PromiseTest {
     }
 
     private static void promise16Causes() {
-        WeatherHotel hotel = withStays("r10(4-6);w5(4-5);l5(4-5)", "r10(4-6)");
+        WeatherHotel hotel = Hotels.withStays("r10(4-6);w5(4-5);l5(4-5)", "r10(4-6)");
         due("16: the least cause", hotel.can(1, 2), 0);
         hotel.plant(0, 30, 0);
         due("16: WARMTH", hotel.can(1, 2), 1);
@@ -527,7 +502,7 @@ final class PromiseTest {
     }
 
     private static void promise17() {
-        WeatherHotel hotel = withStays("r5(0-1)", "r5(0-1)", "r5(0-1)", "r10(0-1)");
+        WeatherHotel hotel = Hotels.withStays("r5(0-1)", "r5(0-1)", "r5(0-1)", "r10(0-1)");
         due("17: none can", hotel.best(0), 0);
         due("17: none can", hotel.best(1), 0);
         hotel.plant(0, 10, 0);
@@ -553,7 +528,7 @@ final class PromiseTest {
     }
 
     private static void promise18() {
-        WeatherHotel hotel = withStays("r5(0-1)", "r5(0-1)", "r5(0-1)", "r8(0-1)");
+        WeatherHotel hotel = Hotels.withStays("r5(0-1)", "r5(0-1)", "r5(0-1)", "r8(0-1)");
         due("18: each alone is too much", hotel.smallest(), 1);
         hotel.plant(0, 7, 0);
         due("18: of fewest STAYS", hotel.smallest(), 8);
@@ -568,7 +543,7 @@ final class PromiseTest {
     }
 
     private static void promise19() {
-        WeatherHotel hotel = withStays("r5(0-1)", "r5(0-1)", "r10(0-1)");
+        WeatherHotel hotel = Hotels.withStays("r5(0-1)", "r5(0-1)", "r10(0-1)");
         hotel.plant(0, 10, 0);
         hotel.stay(2, 2, 2, 150);
         due("19: one of THE BEST", hotel.costs(0), 50);
@@ -586,7 +561,7 @@ final class PromiseTest {
 
     /** ROOMS 0, 4, 8 on FLOOR 0, 1, 5, 9 on 1, 2, 6 on 2, 3, 7 on 3. */
     private static WeatherHotel forRooms() {
-        WeatherHotel hotel = withRooms(10);
+        WeatherHotel hotel = Hotels.withRooms(10);
         Ask.day(hotel, 0, "r5(0-1)");
         Ask.day(hotel, 1, "r9(0-1)");
         hotel.stay(0, 0, 0, 0);
@@ -638,7 +613,7 @@ final class PromiseTest {
             due("20: refused " + call[0] + " " + call[1] + " " + call[2], hotel.rooms(call[0], call[1], call[2]), -1);
             due("20: the tape stays", hotel.count(4), 20);
         }
-        WeatherHotel full = withRooms(10);
+        WeatherHotel full = Hotels.withRooms(10);
         Ask.day(full, 0, "r0(0-1)");
         for (int b = 0; b < 7; b++) {
             full.stay(b, 9 - b, 0, 0);
@@ -652,7 +627,7 @@ final class PromiseTest {
     }
 
     private static void promise21() {
-        WeatherHotel hotel = withStays("r10(8-10)", "r6(9-11)", "r7(9-10)");
+        WeatherHotel hotel = Hotels.withStays("r10(8-10)", "r6(9-11)", "r7(9-10)");
         hotel.plant(0, 12, 0);
         for (int k = 1; k <= 2; k++) {
             due("21: HOURS together", hotel.shifting(7, k, 10), 2);
@@ -675,7 +650,7 @@ final class PromiseTest {
         for (int[] call : refused) {
             due("21: refused " + call[0] + " " + call[1] + " " + call[2], hotel.shifting(call[0], call[1], call[2]), -1);
         }
-        WeatherHotel edge = withStays("r10(0-1)", "r10(1-2)");
+        WeatherHotel edge = Hotels.withStays("r10(0-1)", "r10(1-2)");
         edge.plant(0, 10, 0);
         edge.shift(0, 3);
         edge.shift(1, 2);
@@ -697,7 +672,7 @@ final class PromiseTest {
         edge.shift(1, 2);
         edge.cellar(20, 0);
         due("21: the CELLAR does too", edge.shifting(1, 2, 10), 1);
-        WeatherHotel wide = withStays("r10(4-7)", "r10(5-6)");
+        WeatherHotel wide = Hotels.withStays("r10(4-7)", "r10(5-6)");
         wide.plant(0, 10, 0);
         due("21: one HOUR is too little", wide.shifting(2, 1, 10), -2);
         due("21: two HOURS do", wide.shifting(2, 2, 10), 2);
@@ -705,14 +680,14 @@ final class PromiseTest {
         due("21: both by one HOUR", wide.shifting(3, 1, 10), 2);
         due("21: the least row", wide.shifting(3, 1, 0) * 10 + wide.shifting(3, 1, 1), 24);
         due("21: fewest HOURS, then the least row", wide.shifting(3, 2, 0) * 10 + wide.shifting(3, 2, 1), 13);
-        WeatherHotel many = withStays("r1(0-1)", "r1(1-2)", "r1(2-3)", "r1(3-4)", "r1(4-5)", "r1(5-6)");
+        WeatherHotel many = Hotels.withStays("r1(0-1)", "r1(1-2)", "r1(2-3)", "r1(3-4)", "r1(4-5)", "r1(5-6)");
         many.plant(0, 1, 0);
         due("21: six are too many", many.shifting(63, 1, 10), -1);
         due("21: five are not", many.shifting(31, 1, 10), 0);
     }
 
     private static void promise22() {
-        WeatherHotel hotel = withStays("r10(8-10);w5(0-1)", "r6(9-11);l2(3-4)", "w5(0-1)");
+        WeatherHotel hotel = Hotels.withStays("r10(8-10);w5(0-1)", "r6(9-11);l2(3-4)", "w5(0-1)");
         hotel.plant(0, 10, 3);
         hotel.plant(1, 4, 2);
         hotel.plant(2, 0, 7);
@@ -735,13 +710,13 @@ final class PromiseTest {
             due("22: no such what", hotel.larger(what), -1);
         }
         due("22: PLANT is as it was", hotel.can(4, 2), 1);
-        WeatherHotel like = withStays("l1(0-1)", "l1(0-1)", "l1(0-1)");
+        WeatherHotel like = Hotels.withStays("l1(0-1)", "l1(0-1)", "l1(0-1)");
         like.plant(2, 1, 100);
         due("22: of fewest STAYS, the least", like.larger(1), 1);
     }
 
     private static void promise23() {
-        WeatherHotel hotel = withStays("r10(8-10)", "r6(9-11)", "r4(20-21);w1(0-1)");
+        WeatherHotel hotel = Hotels.withStays("r10(8-10)", "r6(9-11)", "r4(20-21);w1(0-1)");
         hotel.plant(0, 0, 3);
         hotel.plant(1, 0, 5);
         due("23: one alone", hotel.fair(1, 0, 0), 30);
@@ -768,7 +743,7 @@ final class PromiseTest {
         for (int i = 0; i < 9; i++) {
             nine[i] = "l99(0-1)";
         }
-        WeatherHotel full = withStays(nine);
+        WeatherHotel full = Hotels.withStays(nine);
         full.plant(2, 0, 999);
         due("23: eight", full.fair(255, 7, 0), 99 * 999);
         due("23: nine are too many", full.fair(511, 0, 0), -1);
@@ -781,7 +756,7 @@ final class PromiseTest {
     }
 
     private static void promise24() {
-        WeatherHotel hotel = withStays("r10(0-2)", "r6(1-3)", "l1(0-1)");
+        WeatherHotel hotel = Hotels.withStays("r10(0-2)", "r6(1-3)", "l1(0-1)");
         hotel.plant(0, 99, 0);
         hotel.cellar(20, 0);
         due("24: HARM", hotel.drought(3, -1), 12);
@@ -803,7 +778,7 @@ final class PromiseTest {
             due("24: no such STAYS", hotel.drought(stays, -1), -3);
         }
         String[] seven = {"r1(0-1)", "r1(0-1)", "r1(0-1)", "r1(0-1)", "r1(0-1)", "r1(0-1)", "r1(0-1)"};
-        WeatherHotel full = withStays(seven);
+        WeatherHotel full = Hotels.withStays(seven);
         due("24: seven are too many", full.drought(127, -1), -3);
         due("24: six", full.drought(126, -1), 6);
         due("24: no such place", full.drought(126, 6), -2);
@@ -811,7 +786,7 @@ final class PromiseTest {
     }
 
     private static void promise24Limits() {
-        WeatherHotel hotel = withRooms(5);
+        WeatherHotel hotel = Hotels.withRooms(5);
         Ask.day(hotel, 0, "r10(0-2);w4(5-6)");
         hotel.stay(0, 0, 0, 0);
         hotel.stay(1, 4, 0, 0);
@@ -866,7 +841,7 @@ final class PromiseTest {
         Ask.feed(hotel, new int[40]);
         due("25: not so many bytes", hotel.meter(1, -1), -3);
         due("25: the tape stays", hotel.count(4), 40);
-        WeatherHotel shifted = withStays("r1(0-1)");
+        WeatherHotel shifted = Hotels.withStays("r1(0-1)");
         shifted.shift(0, 1);
         due("25: not SHIFTED", Ask.meter(shifted, 1, 0, 1), 0);
     }
@@ -884,7 +859,7 @@ final class PromiseTest {
     }
 
     private static void promise27() {
-        WeatherHotel hotel = withRooms(10);
+        WeatherHotel hotel = Hotels.withRooms(10);
         for (int d = 0; d < 12; d++) {
             Ask.day(hotel, d, "l" + (d + 1) + "(0-1)");
         }
@@ -910,7 +885,7 @@ final class PromiseTest {
         hotel.seed(65535);
         hotel.draw(1);
         due("27: the largest X", hotel.count(5), (int) ((25173L * 65535 + 13849) % 65536));
-        WeatherHotel few = withRooms(1);
+        WeatherHotel few = Hotels.withRooms(1);
         Ask.day(few, 5, "l1(0-1)");
         due("27: no STAYS", few.draw(1), 0);
         few.seed(1);
@@ -920,7 +895,7 @@ final class PromiseTest {
     }
 
     private static void promise28() {
-        WeatherHotel hotel = withStays("r1(0-1)", "r1(0-1)", "r1(0-1)");
+        WeatherHotel hotel = Hotels.withStays("r1(0-1)", "r1(0-1)", "r1(0-1)");
         due("28: keep", hotel.keep(), 3);
         hotel.leave(1);
         due("28: keep", hotel.keep(), 2);
@@ -934,7 +909,7 @@ final class PromiseTest {
     }
 
     private static void promise29() {
-        WeatherHotel hotel = withStays("r1(0-1)", "r2(0-1)");
+        WeatherHotel hotel = Hotels.withStays("r1(0-1)", "r2(0-1)");
         due("29: none was KEPT", hotel.undo(), false);
         hotel.shift(0, -2);
         hotel.seed(77);
@@ -997,7 +972,7 @@ final class PromiseTest {
     }
 
     private static void promise31() {
-        WeatherHotel hotel = withRooms(7);
+        WeatherHotel hotel = Hotels.withRooms(7);
         Ask.day(hotel, 0, "r1(0-1)");
         Ask.day(hotel, 11, "r1(0-1)");
         hotel.stay(3, 6, 11, 42);
