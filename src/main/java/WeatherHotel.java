@@ -536,12 +536,12 @@ public final class WeatherHotel {
             return sign >= '0' && sign <= '9';
         }
 
-        /** Keeps the fault as the calls answer it; always false, so that a reader can hand it on. */
-        boolean failAt(int number, int faultPlace) {
+        /** Keeps the fault as the calls answer it. */
+        void failAt(int number, int faultPlace) {
             fault = -1000 * number - faultPlace;
-            return false;
         }
 
+        /** Always false, so that a reader can hand it on. */
         boolean failHere(int number) {
             fault = -1000 * number - place;
             return false;

@@ -15,6 +15,7 @@ final class TextEdgesTest {
         dayToldAnew();
         lawTextLengths();
         lawTextCutOrTorn();
+        lawSigns();
         lawNumbers();
         lawClauses();
         lawOpen();
@@ -239,6 +240,46 @@ final class TextEdgesTest {
             }
         }
         due("12: whole", lawOf(text), 2);
+    }
+
+    /** Each sign that wants something on both sides, without it. */
+    private static void lawSigns() {
+        for (char sign : "+-*/%".toCharArray()) {
+            due("12: a CLAUSE's E behind " + sign, lawOf("m5" + sign + "(s=0)"), -1003);
+            due("12: a CLAUSE's E ahead of " + sign, lawOf("m" + sign + "5(s=0)"), -1001);
+            due("12: two of " + sign, lawOf("m5" + sign + sign + "5(s=0)"), -1003);
+            due("12: in [] behind " + sign, lawOf("m[5" + sign + "](s=0)"), -1004);
+            due("12: in [] ahead of " + sign, lawOf("m[" + sign + "5](s=0)"), -1002);
+            due("12: on the left behind " + sign, lawOf("m5(s" + sign + "=0)"), -1005);
+            due("12: on the left ahead of " + sign, lawOf("m5(" + sign + "s=0)"), -1003);
+            due("12: on the right behind " + sign, lawOf("m5(s=0" + sign + ")"), -1007);
+            due("12: on the right ahead of " + sign, lawOf("m5(s=" + sign + "0)"), -1005);
+            due("12: ahead of & behind " + sign, lawOf("m5(s=0" + sign + "&s=0)"), -1007);
+            due("12: ahead of | behind " + sign, lawOf("m5(s=0" + sign + "|s=0)"), -1007);
+        }
+        for (char sign : "<>=".toCharArray()) {
+            due("12: nothing behind " + sign, lawOf("m5(s" + sign + ")"), -1005);
+            due("12: nothing ahead of " + sign, lawOf("m5(" + sign + "s)"), -1003);
+            due("12: two of " + sign, lawOf("m5(s" + sign + "s" + sign + "s)"), -1006);
+            due("12: in the E of a CLAUSE " + sign, lawOf("m5" + sign + "5(s=0)"), -1002);
+            due("12: in [] " + sign, lawOf("m5([s" + sign + "s]=0)"), -1005);
+        }
+        for (char sign : "&|".toCharArray()) {
+            due("12: nothing behind " + sign, lawOf("m5(s=0" + sign + ")"), -1007);
+            due("12: nothing ahead of " + sign, lawOf("m5(" + sign + "s=0)"), -1003);
+            due("12: two of " + sign, lawOf("m5(s=0" + sign + sign + "s=0)"), -1007);
+            due("12: between two E " + sign, lawOf("m5(s" + sign + "s)"), -1004);
+            due("12: between two CLAUSES " + sign, lawOf("m5(s=0)" + sign + "m5(s=0)"), -1007);
+        }
+        Object[][] brackets = {
+            {"m5(s=0))", -1007}, {"m5((s=0)", -1008}, {"m5()", -1003}, {"m5(())", -1004}, {"m[](s=0)", -1002}, {"m5(s=[])", -1006},
+            {"m5([s=0])", -1005}, {"m5((s)=0)", -1005}, {"m(5)(s=0)", -1001}, {"m5(s=(0))", -1005}, {"m5[s=0]", -1002}, {"m5(!)", -1004},
+            {"m5(s=!0)", -1005}, {"m!5(s=0)", -1001}, {"m5(s!=0)", -1004}, {"m5((s=0)(s=0))", -1008}, {"m5((s=0)!s=0)", -1008},
+            {"m5((s=0)+1=1)", -1008}, {"m5(s=00r)", -1007}, {"m5(sr=0)", -1004}, {"m5(5[s]=0)", -1004}, {"m5([s]5=0)", -1006},
+        };
+        for (Object[] bracket : brackets) {
+            due("12: " + bracket[0], lawOf((String) bracket[0]), (Integer) bracket[1]);
+        }
     }
 
     private static void lawNumbers() {
