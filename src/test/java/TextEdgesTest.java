@@ -23,6 +23,7 @@ final class TextEdgesTest {
         lawArithmetic();
         lawRefused();
         lawToldAnew();
+        textsToldOften();
         checkEdges();
         Ask.end();
     }
@@ -406,6 +407,19 @@ final class TextEdgesTest {
         Ask.law(hotel, "m4(2=2)");
         hotel.undo();
         due("12: not KEPT", hotel.count(3) * 10 + hotel.served(0), 14);
+    }
+
+    /** Whatever was read before, right or faulty, leaves room for the next text. */
+    private static void textsToldOften() {
+        WeatherHotel hotel = Hotels.withStays("l1(0-1)");
+        for (int round = 2; round < 20; round++) {
+            due("12: a long one with a FAULT", Ask.law(hotel, "m01" + "+1".repeat(75) + "(1=1)x"), -1158);
+            due("12: told often", Ask.law(hotel, "m" + round + "+s*1-[1-1](s=0&t=0|1=2);m9(1=1)"), 2);
+            due("12: the last one holds", hotel.served(0), round);
+            due("3: a long one with a FAULT", Ask.day(hotel, 1, "r9(0-1);".repeat(13) + "r9(0-1)x"), -1111);
+            due("3: told often", Ask.day(hotel, 1, "r" + round + "(5-6)"), 1);
+            due("3: the last one is so", hotel.dayIs(1, 0, 5) * 100 + hotel.dayIs(1, 0, 0), 100 * round);
+        }
     }
 
     // ---- CHECK
