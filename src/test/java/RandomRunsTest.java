@@ -2,14 +2,17 @@ import java.util.Random;
 
 /** Runs of drawn calls, the class held against the plain reference; the draws are the same each time. */
 final class RandomRunsTest {
-    private static final int RUNS = 300;
-    private static final int CALLS = 220;
+    private static final int RUNS = 400;
+
+    // So many calls at most ahead of the last step and the last counts: 512 in all are promised.
+    private static final int CALLS = 420;
 
     private final Random random;
     private final int run;
     private final WeatherHotel hotel = new WeatherHotel();
     private final Reference reference = new Reference();
     private final int scale;
+    private int calls = 0;
 
     // 1 PLANT of one KIND, 2 PIPES, 3 CELLAR: what alone is short in this run, so that more can be; 0 all.
     private final int onlyTight;
@@ -41,19 +44,22 @@ final class RandomRunsTest {
             room();
             stay();
         }
-        for (int i = 0; i < CALLS; i++) {
+        for (int i = 0; i < CALLS && calls < CALLS; i++) {
             step();
         }
         for (int what = -1; what < 62; what++) {
             due("count " + what, hotel.count(what), reference.count(what));
         }
+        Ask.due("run " + run + ": at most 512 calls", calls <= 512, true);
     }
 
     private void due(String call, long got, long want) {
+        calls++;
         Ask.due("run " + run + ": " + call, got, want);
     }
 
     private void due(String call, boolean got, boolean want) {
+        calls++;
         Ask.due("run " + run + ": " + call, got, want);
     }
 
