@@ -43,6 +43,7 @@ final class PromiseTest {
         promise29();
         promise30();
         promise31();
+        readme();
         Ask.end();
     }
 
@@ -993,5 +994,24 @@ final class PromiseTest {
         due("31: of STAY 0", hotel.count(10) + 100 * hotel.count(20) + 10000 * hotel.count(30) + 10000000 * hotel.count(40), 30071103);
         hotel.leave(3);
         due("31: a STAY that is gone", hotel.count(13), -1);
+    }
+
+    /** The example of README.md. */
+    private static void readme() {
+        WeatherHotel hotel = new WeatherHotel();
+        hotel.feed(0x7233_2838, 0x2d31_3029, 0, 0, 0);
+        due("README: day", hotel.day(0, 8), 1);
+        int room = hotel.room(0);
+        due("README: room", room, 0);
+        hotel.plant(0, 2, 5);
+        hotel.stay(0, room, 0, 40);
+        due("README: gets", hotel.gets(0, 0, 8), 2);
+        due("README: can", hotel.can(1, 0), 0);
+        due("README: why not", hotel.can(1, 2), 0);
+        due("README: served", hotel.served(0), 2);
+        hotel.feed(0x6d37_2874, 0x3d39_2900, 0, 0, 0);
+        due("README: law", hotel.law(7), 1);
+        due("README: served by it", hotel.served(0), 8);
+        due("README: larger", hotel.larger(0), 35);
     }
 }

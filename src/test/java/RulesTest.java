@@ -1,31 +1,35 @@
 import java.io.IOException;
 import java.lang.management.ManagementFactory;
+import java.lang.reflect.Array;
 import java.lang.reflect.Field;
 import java.lang.reflect.Method;
 import java.lang.reflect.Modifier;
 import java.nio.file.Files;
 import java.nio.file.Path;
+import java.util.Arrays;
+import java.util.Collections;
+import java.util.IdentityHashMap;
 import java.util.List;
 import java.util.Set;
 import java.util.TreeSet;
 import java.util.regex.Matcher;
 import java.util.regex.Pattern;
 
-/** Those rules of ../shared/LANGUAGE.md that can be asked of the source and the compiled class; run at the project's root. */
+/** Rules of ../shared/LANGUAGE.md that are asked of the text and the compiled class (TreeRulesTest has the others); run at the project's root. */
 final class RulesTest {
     private static final Path SOURCE = Path.of("src/main/java/WeatherHotel.java");
-    private static final String FACE = "feed/5 day/2 dayIs/3 room/1 plant/3 pipes/2 cellar/2 stay/4 leave/1 shift/2 law/1 wants/2"
-            + " gets/3 served/1 can/2 best/1 smallest/0 costs/1 rooms/3 shifting/3 larger/1 fair/3 drought/2 meter/2 seed/1"
-            + " draw/1 keep/0 undo/0 check/3 count/1";
+    private static final String NUMBERS = "feed/5 day/2 dayIs/3 room/1 law/1 wants/2 gets/3 served/1 can/2 best/1 smallest/0 costs/1"
+            + " rooms/3 shifting/3 larger/1 drought/2 meter/2 draw/1 keep/0 check/3 count/1";
+    private static final String LONG_NUMBERS = "fair/3";
+    private static final String BOOLEANS = "plant/3 pipes/2 cellar/2 stay/4 leave/1 shift/2 seed/1 undo/0";
 
     private RulesTest() {
     }
 
-    public static void main(String[] args) throws IOException {
+    public static void main(String[] args) throws IOException, IllegalAccessException {
         face();
-        nestedClasses();
-        words();
-        methods();
+        source();
+        size();
         memory();
         Ask.end();
     }
@@ -33,48 +37,42 @@ final class RulesTest {
     private static void face() {
         Class<?> hotel = WeatherHotel.class;
         due("public and final", Modifier.isPublic(hotel.getModifiers()) && Modifier.isFinal(hotel.getModifiers()));
-        Set<String> open = new TreeSet<>();
         Set<String> names = new TreeSet<>();
         for (Method method : hotel.getDeclaredMethods()) {
             if (!Modifier.isPrivate(method.getModifiers())) {
-                open.add(method.getName() + "/" + method.getParameterCount());
                 names.add(method.getName());
+                due(method + " takes ints", Arrays.stream(method.getParameterTypes()).allMatch(type -> type == int.class));
+                due(method + " belongs to the object", !Modifier.isStatic(method.getModifiers()));
             }
         }
-        due("the methods of the document", open.equals(new TreeSet<>(List.of(FACE.split(" ")))));
+        methodsAre(int.class, NUMBERS);
+        methodsAre(long.class, LONG_NUMBERS);
+        methodsAre(boolean.class, BOOLEANS);
         for (Method method : hotel.getDeclaredMethods()) {
             due(method + " bears a public name", Modifier.isPublic(method.getModifiers()) || !names.contains(method.getName()));
         }
         for (Field field : hotel.getDeclaredFields()) {
             due(field + " is open", Modifier.isPrivate(field.getModifiers()) != field.getName().equals("NONE"));
         }
+        due("no other open method", names.size() == 30);
         due("one constructor", hotel.getDeclaredConstructors().length == 1 && hotel.getConstructors().length == 1);
     }
 
-    private static void nestedClasses() {
-        Class<?>[] nested = WeatherHotel.class.getDeclaredClasses();
-        due("at most twelve classes", nested.length + 1 <= 12);
-        for (Class<?> one : nested) {
-            due(one + " is static", Modifier.isStatic(one.getModifiers()));
-            due(one + " is not open", !Modifier.isPublic(one.getModifiers()) && !Modifier.isProtected(one.getModifiers()));
-            int fields = 0;
-            for (Field field : one.getDeclaredFields()) {
-                fields += Modifier.isStatic(field.getModifiers()) ? 0 : 1;
-                due(field + " is final if static",
-                        !Modifier.isStatic(field.getModifiers()) || Modifier.isFinal(field.getModifiers()));
+    private static void methodsAre(Class<?> answer, String face) {
+        Set<String> open = new TreeSet<>();
+        for (Method method : WeatherHotel.class.getDeclaredMethods()) {
+            if (!Modifier.isPrivate(method.getModifiers()) && method.getReturnType() == answer) {
+                open.add(method.getName() + "/" + method.getParameterCount());
             }
-            due(one + " has at most twenty fields", fields <= 20);
         }
+        due("methods of the document that answer " + answer, open.equals(new TreeSet<>(List.of(face.split(" ")))));
     }
 
-    private static void words() throws IOException {
-        String code = bare(Files.readString(SOURCE));
-        for (String word : List.of("throw", "throws", "try", "catch", "finally", "synchronized", "assert", "package", "native",
-                "System\\.out", "Exception", "Object", "equals", "hashCode", "toString", "var", "protected", "volatile", "transient")) {
-            due("the word " + word, !Pattern.compile("\\b" + word + "\\b").matcher(code).find());
-        }
-        due("a lambda or a method reference", !code.contains("->") && !code.contains("::"));
-        Matcher imports = Pattern.compile("import ([\\w.]+);").matcher(code);
+    /** Rules 1, 3 and 4: no package, no library but what is listed, no strange signs. */
+    private static void source() throws IOException {
+        String code = Files.readString(SOURCE);
+        due("a package line", !Pattern.compile("(?m)^package\\b").matcher(code).find());
+        Matcher imports = Pattern.compile("(?m)^import (.+);").matcher(code);
         while (imports.find()) {
             due("import " + imports.group(1), List.of("java.util.Arrays", "java.util.ArrayList", "java.util.List").contains(imports.group(1)));
         }
@@ -85,33 +83,35 @@ final class RulesTest {
         }
     }
 
-    private static void methods() throws IOException {
-        String code = bare(Files.readString(SOURCE));
-        Matcher heads = Pattern.compile("(?m)^ +(?:public |private |static |final )*[\\w\\[\\]]+ (\\w+)\\(([^)]*)\\) \\{\\n").matcher(code);
-        int found = 0;
-        while (heads.find()) {
-            if (List.of("if", "for", "while", "switch").contains(heads.group(1))) {
-                continue;
-            }
-            found++;
-            int open = 1;
-            int at = heads.end();
-            int lines = 1;
-            while (open > 0) {
-                char sign = code.charAt(at++);
-                open += sign == '{' ? 1 : sign == '}' ? -1 : 0;
-                lines += sign == '\n' ? 1 : 0;
-            }
-            due(heads.group(1) + " has " + lines + " lines", lines <= 60);
-            due(heads.group(1) + " has too many parameters", heads.group(2).split(",").length <= 7);
-        }
-        due("methods were found", found > 60);
+    /** All calls of a run live in one room; even if each of 512 calls made a hotel, all of them would be in it. */
+    private static void size() throws IllegalAccessException {
+        Set<Object> seen = Collections.newSetFromMap(new IdentityHashMap<>());
+        long elements = elementsOf(new WeatherHotel(), seen);
+        due("objects of a hotel: " + seen.size(), 512L * seen.size() <= 600_000);
+        due("fields and elements of a hotel: " + elements, 512 * elements <= 7_300_000);
     }
 
-    /** Without comments, texts and signs in quotes. */
-    private static String bare(String code) {
-        return code.replaceAll("(?s)/\\*.*?\\*/", "").replaceAll("//[^\\n]*", "")
-                .replaceAll("\"[^\"\\n]*\"", "\"\"").replaceAll("'[^'\\n]'", "' '");
+    private static long elementsOf(Object one, Set<Object> seen) throws IllegalAccessException {
+        if (one == null || !seen.add(one)) {
+            return 0;
+        }
+        long elements = 0;
+        if (one instanceof int[][] rows) {
+            for (int[] row : rows) {
+                elements += 1 + elementsOf(row, seen);
+            }
+            return elements;
+        }
+        if (one.getClass().isArray()) {
+            return Array.getLength(one);
+        }
+        for (Field field : one.getClass().getDeclaredFields()) {
+            if (!Modifier.isStatic(field.getModifiers())) {
+                field.setAccessible(true);
+                elements += 1 + (field.getType().isPrimitive() ? 0 : elementsOf(field.get(one), seen));
+            }
+        }
+        return elements;
     }
 
     /** No call makes an object: all is made with the hotel. */

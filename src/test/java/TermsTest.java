@@ -63,13 +63,19 @@ final class TermsTest {
 
     // ---- "DAYS 0 to 11: of KINDS 0 RAIN, 1 WARMTH, 2 LIGHT so much in each HOUR (0 to 23; 0 to 99 each)"
 
-    private static void daysByKindsAndHours() {
+    /** Each with an HOUR of its own. */
+    private static WeatherHotel twelveDays() {
         WeatherHotel hotel = new WeatherHotel();
         for (int d = 0; d < 12; d++) {
             String hours = "(" + 2 * d + "-" + (2 * d + 1) + ")";
             due("DAY " + d, Ask.day(hotel, d, "l" + (d + 70) + hours + ";r" + d + hours + ";w" + (d + 40) + hours), 3);
         }
+        return hotel;
+    }
+
+    private static void daysByKindsAndHours() {
         for (int d = 0; d < 12; d++) {
+            WeatherHotel hotel = twelveDays();
             for (int hour = 0; hour < 24; hour++) {
                 boolean isIts = hour == 2 * d;
                 due("RAIN is KIND 0", hotel.dayIs(d, 0, hour), isIts ? d : 0);
@@ -77,6 +83,7 @@ final class TermsTest {
                 due("LIGHT is KIND 2", hotel.dayIs(d, 2, hour), isIts ? d + 70 : 0);
             }
         }
+        WeatherHotel hotel = new WeatherHotel();
         due("no DAY 12", Ask.day(hotel, 12, "r1(0-1)"), NONE);
         due("no DAY -1", hotel.day(-1, 7), NONE);
         due("99 of each at most", hotel.day(11, 7) == 1 && Ask.day(hotel, 11, "w99(3-4);w99(3-4)") == 2, true);
@@ -89,10 +96,10 @@ final class TermsTest {
     private static void daysByParts() {
         WeatherHotel hotel = new WeatherHotel();
         String part = "w7(11-12);";
-        due("120 bytes", Ask.day(hotel, 0, part.repeat(11) + "w7(11-12)"), 12);
+        due("120 bytes", Ask.day(hotel, 0, part.repeat(11) + "w07(11-12)"), 12);
         due("so much more", hotel.dayIs(0, 1, 11), 84);
         due("119 and a ; are 120", Ask.day(hotel, 1, part.repeat(12)), -1120);
-        due("121 bytes", Ask.day(hotel, 1, part.repeat(12) + "w7(11-12)"), NONE);
+        due("121 bytes", Ask.day(hotel, 1, "w07(11-12);" + part.repeat(10) + "w07(11-12)"), NONE);
         hotel = new WeatherHotel();
         due("no blanks", Ask.day(hotel, 0, "r1(0-1); r1(0-1)"), -1008);
         due("no blanks", Ask.day(hotel, 0, "r 1(0-1)"), -1001);
@@ -272,7 +279,7 @@ final class TermsTest {
 
     /** Which of three like STAYS is served first. */
     private static int firstBy(String law) {
-        WeatherHotel hotel = Hotels.withStays("w1(0-1)", "w1(0-1)", "w1(0-1)");
+        WeatherHotel hotel = Hotels.withStays(Hotels.times(3, "r3(0-1);w1(0-1);l4(0-1)"));
         hotel.plant(1, 1, 0);
         due("a LAW: " + law, Ask.law(hotel, law) > 0, true);
         return hotel.gets(0, 1, 0) == 1 ? 0 : hotel.gets(1, 1, 0) == 1 ? 1 : 2;
@@ -364,6 +371,7 @@ final class TermsTest {
         }
         due("k n g are 0 in p", firstBy("p7(s=2&k=0&n=0&g=0);p6+k+n+g(s=1);p6(s=0)"), 2);
         due("k n g are 0 in p", firstBy("p5+k*9+n*9+g*9(s=1);p6(s=2)"), 2);
+        due("k n g are 0 in p", firstBy("p9(s=0&n>0);p9(s=1&g>0);p1(s=2)"), 2);
         due("a STAY's own letters in p", firstBy("p9(s=2&r=2&f=2&d=2&c=100&t=0)"), 2);
     }
 
@@ -549,6 +557,14 @@ final class TermsTest {
         due("of fewest STAYS", hotel.best(1) * 1000 + hotel.best(0), 4051);
         hotel.stay(2, 2, 0, 50);
         due("of like ones the least set", hotel.best(1) * 1000 + hotel.best(0), 1050);
+        hotel.stay(0, 0, 0, 20);
+        hotel.stay(1, 1, 0, 30);
+        hotel.cellar(24, 0);
+        Ask.day(hotel, 1, "r9(0-2)");
+        hotel.stay(2, 2, 1, 49);
+        due("0 and 1", hotel.best(1) * 1000 + hotel.best(0), 3050);
+        hotel.stay(2, 2, 1, 50);
+        due("of like ones of fewest STAYS: 2, though 0 and 1 are a lesser set", hotel.best(1) * 1000 + hotel.best(0), 4050);
     }
 
     // ---- "THE SMALLEST that can't: of fewest STAYS; of like ones the least."
@@ -564,6 +580,9 @@ final class TermsTest {
         due("1 alone", hotel.smallest(), 2);
         hotel.leave(1);
         due("0 and 2 can", hotel.smallest(), 0);
+        WeatherHotel last = Hotels.withStays("w5(0-1)", "w5(0-1)", "w9(0-1)");
+        last.plant(1, 8, 0);
+        due("of fewest STAYS: 2, though 0 and 1 are a lesser set", last.smallest(), 4);
     }
 
     // ---- "COSTS of a STAY to the others: PRICES of THE BEST set of all others, less those of THE BEST set of all without the PRICE of this one (if
@@ -611,6 +630,10 @@ final class TermsTest {
         due("it is so then", hotel.count(10) * 100 + hotel.count(11) * 10 + hotel.count(12), 345);
         due("as many ROOMS as STAYS", Ask.rooms(hotel, 7, 10, 0, 1), NONE);
         due("as many STAYS as ROOMS", hotel.rooms(1, 2, 10), NONE);
+        WeatherHotel seven = Hotels.withStays(Hotels.times(7, "l0(0-1)"));
+        due("1 to 6 STAYS", Ask.rooms(seven, 127, 10, 0, 1, 2, 3, 4, 5, 6), NONE);
+        due("one in each", seven.rooms(63, 6, 5), 5);
+        due("one in each: a ROOM twice", Ask.rooms(seven, 3, 10, 0, 0), -3);
     }
 
     // ---- "SHIFTING by at most k (1 to 2) HOURS each from what it is (within -3 to 3): told STAYS (1 to 5), so that all STAYS CAN be at once: fewest
@@ -638,6 +661,8 @@ final class TermsTest {
         due("with k 1: 0 1", hotel.shifting(3, 1, 0) * 10 + hotel.shifting(3, 1, 1), 34);
         due("it is so then", hotel.shifting(3, 1, 11) * 100 + hotel.count(40) * 10 + hotel.count(41), 234);
         due("k 0 and 3", hotel.shifting(3, 0, 10) + hotel.shifting(3, 3, 10), 2 * NONE);
+        WeatherHotel six = Hotels.withStays(Hotels.times(6, "l0(0-1)"));
+        due("1 to 5 STAYS", six.shifting(63, 1, 10) * 10 + six.shifting(62, 1, 10), 10 * NONE);
     }
 
     // ---- "LARGER: a set of STAYS and as much more PLANT as it takes (PIPES and CELLAR must do): PRICES less what that costs: most; of like ones of
@@ -676,6 +701,9 @@ final class TermsTest {
         due("from 0 on", hotel.fair(4, 2, 0), 29);
         due("two in one HOUR", hotel.fair(3, 1, 0) * 10 + hotel.fair(3, 1, 1), 41);
         due("two in two HOURS", hotel.fair(5, 0, 0) * 10 + hotel.fair(5, 0, 1), 31);
+        WeatherHotel nine = Hotels.withStays(Hotels.times(9, "l8(0-1)"));
+        nine.plant(2, 0, 1);
+        due("1 to 8 STAYS", nine.fair(511, 0, 0) * 10 + nine.fair(510, 1, 0), -10 + 8);
     }
 
     // ---- "A DROUGHT: in which fixed order told STAYS (1 to 6) are served (all else as above, nobody else being there) HARM is least: of like ones
@@ -707,6 +735,12 @@ final class TermsTest {
         Ask.law(hotel, "m9(t=0&k=0&s=0);m8(t=1&s=1);m1(1=1)");
         // 0 first: it has all in HOUR 0 and the 2 in HOUR 1; 1 misses 6 there. 1 first: it has the 2, and 0 what it wants in HOUR 0, if it is next.
         due("one order for all HOURS", order(hotel, 7) * 100 + hotel.drought(7, NONE), 10200 + 8 * 4 + 6 + 6 + 6 + 2);
+        Ask.law(hotel, "m9(s=1);m1(1=1)");
+        hotel.pipes(0, 1);
+        // FLOOR 0 takes only 1 in each HOUR, so that 1 has its 6 of 12 in HOUR 0 and of 7 in HOUR 1; the last misses 2 of WARMTH.
+        due("what the PIPES keep is there for others", order(hotel, 7) * 100 + hotel.drought(7, NONE), 1200 + 11 + 11 + 2);
+        WeatherHotel seven = Hotels.withStays(Hotels.times(7, "l1(0-1)"));
+        due("1 to 6 STAYS", seven.drought(127, NONE) * 10 + seven.drought(126, NONE), -30 + 6);
     }
 
     // ---- "METER: RAIN of all HOURS is told: rows of n (1 to 3) DAYS (told ones; not below the one ahead; each as it is, not SHIFTED) that come to
@@ -779,6 +813,10 @@ final class TermsTest {
             x = (25173 * x + 13849) % 65536;
         }
         due("20 times", hotel.draw(20) >= 0 ? hotel.count(5) : NONE, x);
+        hotel.shift(2, -2);
+        hotel.seed(1);
+        hotel.draw(1);
+        due("STAY 2 wants DAY 2, and is SHIFTED still", hotel.count(22) * 10 + hotel.count(42), 21);
     }
 
     // ---- "KEPT: STAYS, X; UNDONE: as they were KEPT last."
@@ -791,15 +829,18 @@ final class TermsTest {
         hotel.seed(500);
         due("KEPT", hotel.keep(), 3);
         hotel.leave(0);
-        hotel.stay(1, 3, 0, 1);
+        Ask.day(hotel, 1, "r1(0-1)");
+        hotel.stay(1, 3, 1, 1);
         hotel.shift(2, -1);
         hotel.draw(7);
         hotel.stay(9, 0, 0, 9);
         due("UNDONE", hotel.undo(), true);
-        int[][] counts = {{2, 7}, {5, 500}, {10, 0}, {11, 1}, {12, 2}, {31, 70}, {41, 5}, {42, 3}, {19, NONE}};
+        int[][] counts = {{2, 7}, {5, 500}, {10, 0}, {11, 1}, {12, 2}, {20, 0}, {21, 0}, {31, 70}, {41, 5}, {42, 3}, {19, NONE}};
         for (int[] count : counts) {
             due("count " + count[0], hotel.count(count[0]), count[1]);
         }
+        hotel.leave(1);
+        due("UNDONE once more", hotel.undo() && hotel.count(2) == 7, true);
         hotel.leave(1);
         hotel.seed(600);
         due("KEPT", hotel.keep(), 2);
@@ -819,6 +860,11 @@ final class TermsTest {
         due("LIGHT is right", Ask.check(hotel, 8, 2, 0, 0, 9, 9), NONE);
         due("the first that is not so", Ask.check(hotel, 8, 0, 0, 7, 8, 1), 2);
         due("the first that is not so", Ask.check(hotel, 8, 1, 0, 7, 7, 0), 0);
+        due("a number of four bytes", Ask.check(hotel, 8, 0, 0, 7 + 256), 1);
+        int[] all = new int[24];
+        all[2] = 9;
+        all[3] = 9;
+        due("all HOURS", Ask.check(hotel, 8, 2, all), NONE);
     }
 
     // ---- "All memory is the hotel's own. A call that is refused (NONE, false) changes nothing but the tape, where it is told." RefusedTest goes
